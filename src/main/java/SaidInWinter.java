@@ -717,16 +717,14 @@ public final class SaidInWinter {
 
     /** One CELL: its LAYERS from the lowest on. What is asked of a layer that isn't there is 0. */
     private static final class Cell {
-        private final Layer[] kinds;
         private final int[] kind = new int[ROOM];
         private final int[] oath = new int[ROOM];
         private final int[] frozenIn = new int[ROOM];
         private final int[] thick = new int[ROOM];
+        /** What KIND and OATH tell of a layer, asked once when it freezes: days of thaw would ask again and again. */
+        private final int[] melts = new int[ROOM];
+        private final int[] light = new int[ROOM];
         private int layers;
-
-        Cell(Layer[] kinds) {
-            this.kinds = kinds;
-        }
 
         boolean has(int i) {
             return i >= 0 && i < layers && i < ROOM;
@@ -745,11 +743,11 @@ public final class SaidInWinter {
         }
 
         int meltsAt(int i) {
-            return has(i) ? kindOf(kinds, kind[i]).melts(oath[i]) : 0;
+            return has(i) ? melts[i] : 0;
         }
 
         int lightAt(int i) {
-            return has(i) ? kindOf(kinds, kind[i]).light(oath[i]) : 0;
+            return has(i) ? light[i] : 0;
         }
 
         int depthAt(int i) {
@@ -788,16 +786,19 @@ public final class SaidInWinter {
         }
 
         /** FINGERS of the new layer, or no room. */
-        int freezeOn(int ofKind, int withOath, int frost, int winter) {
-            if (layers >= ROOM) {
+        int freezeOn(Layer told, int number, int withOath, int frost, int winter) {
+            int top = layers;
+            if (top < 0 || top >= ROOM) {
                 return NO_ROOM;
             }
-            kind[layers] = ofKind;
-            oath[layers] = withOath;
-            frozenIn[layers] = winter;
-            thick[layers] = kindOf(kinds, ofKind).fingersIn(frost, withOath);
+            kind[top] = number;
+            oath[top] = withOath;
+            frozenIn[top] = winter;
+            thick[top] = told.fingersIn(frost, withOath);
+            melts[top] = told.melts(withOath);
+            light[top] = told.light(withOath);
             layers++;
-            return thickAt(layers - 1);
+            return thick[top];
         }
 
         /** How many layers are no more: the one below loses nothing that day. */
@@ -828,6 +829,8 @@ public final class SaidInWinter {
                 oath[i] = other.oath[i];
                 frozenIn[i] = other.frozenIn[i];
                 thick[i] = other.thick[i];
+                melts[i] = other.melts[i];
+                light[i] = other.light[i];
             }
         }
 
@@ -937,12 +940,14 @@ public final class SaidInWinter {
     }
 
     private static final class Lake {
+        private final Layer[] kinds;
         private final Cell[] cells = new Cell[CELLS];
         private int winter;
 
         Lake(Layer[] kinds) {
+            this.kinds = kinds;
             for (int c = 0; c < CELLS; c++) {
-                cells[c] = new Cell(kinds);
+                cells[c] = new Cell();
             }
         }
 
@@ -963,7 +968,7 @@ public final class SaidInWinter {
             if (cell == null || !isKindAndOath(kind, oath) || !within(frost, 1, MOST_FROST)) {
                 return NO_SUCH;
             }
-            return cell.freezeOn(kind, oath, frost, winter);
+            return cell.freezeOn(kindOf(kinds, kind), kind, oath, frost, winter);
         }
 
         int thawFor(int days) {
