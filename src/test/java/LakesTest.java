@@ -47,6 +47,8 @@ public final class LakesTest {
         due.is("2: the winter", x.count(0), 1);
         due.is("2: 14 less 3 (it melts 2) less 5", x.cell(4, 1), 7);
         due.is("2: nothing is left in cell 3", x.cell(3, 0), 0);
+        due.is("2: two digits of fingers", Due.read(x, "n1009;n1009;c114;"), 3);
+        due.is("2: 18 less 14", x.cell(1, 1), 4);
 
         String eight = "n0001;".repeat(8);
         due.is("2: room again behind a thaw", Due.read(new SaidInWinter(), eight + "t8;n0001;"), 10);

@@ -48,6 +48,7 @@ public final class LastTest {
         due.is("15: salt, 2 days", x.frost(5, 0, 2), 7);
         due.is("15: black with 0, 9 days", x.frost(6, 0, 9), 9);
         due.is("15: black with 9, 10 days", x.frost(6, 9, 10), 1);
+        due.is("15: black with 9, 5 days", x.frost(6, 9, 5), 1);
         due.is("15: black with 9, 18 days", x.frost(6, 9, 18), 9);
         due.is("15: cracked with 0, 5 days", x.frost(7, 0, 5), 8);
         due.is("15: cracked with 9, 1 day", x.frost(7, 9, 1), 7);
@@ -73,6 +74,8 @@ public final class LastTest {
         due.is("16: behind 99 days", x.where(1, 99), 0);
         due.is("16: another oath", x.where(2, 5), 4);
         due.is("16: which isn't there", x.where(3, 0), 0);
+        due.is("16: oath 0 isn't there", x.where(0, 0), 0);
+        due.is("16: oath 9 isn't there", x.where(9, 99), 0);
         due.is("16: where(-1, 0)", x.where(-1, 0), -1);
         due.is("16: where(10, 0)", x.where(10, 0), -1);
         due.is("16: where(0, -1)", x.where(0, -1), -1);

@@ -102,7 +102,8 @@ public final class ModelTest {
         for (int i = random.nextInt(7); i >= 0 && text.length() < 30; i--) {
             switch (random.nextInt(6)) {
                 case 0 -> text.append("t").append(1 + random.nextInt(2));
-                case 1 -> text.append("c").append(random.nextInt(6)).append("0").append(1 + random.nextInt(9));
+                case 1 -> text.append("c").append(random.nextInt(6)).append(random.nextInt(2))
+                    .append(1 + random.nextInt(9));
                 case 2 -> text.append("d");
                 case 3 -> text.append("w");
                 default -> text.append("n").append(random.nextInt(6)).append(random.nextInt(8))

@@ -61,6 +61,8 @@ public final class OrdersTest {
         due.is("19: with another winter on them", x.disorder(), 0);
         x.restore();
         due.is("19: restored", x.disorder(), 0);
+        Due.read(x, "n0001;n0001;n0001;");
+        due.is("19: of one winter", x.disorder(), 0);
         due.is("19: what freezes then is of the winter restored", x.count(0), 2);
         due.is("19: no ice", new SaidInWinter().disorder(), 0);
     }

@@ -37,6 +37,7 @@ public final class ReadTest {
         due.is("11: latest(10)", x.latest(10), -1);
         due.is("11: latest(0)", x.latest(0), -4);
         due.is("11: latest(9) of a new one", new SaidInWinter().latest(9), -4);
+        due.is("11: cell 0, the lowest", Due.lakeOf("n0091;n0001;n1091;").latest(9), 0);
         due.is("11: the eighth layer", Due.lakeOf("n5091;".repeat(8)).latest(9), 57);
     }
 

@@ -149,6 +149,7 @@ public final class SeedsAndImageTest {
         due.is("26: ice", x.count(2), 4 + 10 + 10 + 2);
         due.is("26: layers one can read", x.count(3), 2);
         due.is("26: oaths", x.count(4), 1 | 2 | 32 | 512);
+        due.is("26: the lowest are read, too", Due.lakeOf("n0011;n1011;n1021;").count(3), 3);
         due.is("26: count(-1)", x.count(-1), -1);
         due.is("26: count(5)", x.count(5), -1);
         due.is("26: count of the most", x.count(Integer.MAX_VALUE), -1);

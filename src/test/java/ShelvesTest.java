@@ -165,6 +165,9 @@ public final class ShelvesTest {
         due.is("31: the other way, too", x.copy(2, 0, 3, 0, 1), -11);
         due.is("31: a layer", x.copy(3, 0, 1, 0, 1), -12);
         due.is("31: to a layer", x.copy(1, 0, 3, 0, 1), -12);
+        x.row(4, 0, 5);
+        due.is("31: a layer, and bytes", x.copy(3, 0, 4, 0, 1), -12);
+        due.is("31: bytes, and a layer", x.copy(4, 0, 3, 0, 1), -12);
         x.row(4, 2, 5);
         due.is("31: another sort", x.copy(1, 0, 4, 0, 9), -12);
     }
