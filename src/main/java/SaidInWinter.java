@@ -861,8 +861,8 @@ public final class SaidInWinter {
         int daysOf(int i) {
             int days = 0;
             for (int above = layers - 1; above >= i; above--) {
-                int melts = Math.max(1, meltsAt(above));
-                days += (thickAt(above) + melts - 1) / melts;
+                int aDay = Math.max(1, meltsAt(above));
+                days += (thickAt(above) + aDay - 1) / aDay;
             }
             return days;
         }
