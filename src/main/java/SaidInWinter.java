@@ -1081,9 +1081,9 @@ public final class SaidInWinter {
             Cell cell = cells[c];
             Cell before = cells[(c + CELLS - 1) % CELLS];
             Cell behind = cells[(c + 1) % CELLS];
-            int winter = cell.winterAt(i);
+            int ofWinter = cell.winterAt(i);
             int enough = cell.thickAt(i) + 2;
-            return before.lowestThickOf(winter) >= enough && behind.lowestThickOf(winter) >= enough;
+            return before.lowestThickOf(ofWinter) >= enough && behind.lowestThickOf(ofWinter) >= enough;
         }
 
         int thinLayers() {
