@@ -811,7 +811,7 @@ public final class SaidInWinter {
         int cutOff(int fingers) {
             int before = layers;
             int left = fingers;
-            for (int top = layers - 1; top >= 0 && left > 0; top--) {
+            for (int top = layers - 1; has(top) && left > 0; top--) {
                 int taken = Math.min(left, thickAt(top));
                 left -= taken;
                 thick[top] -= taken;
